@@ -257,7 +257,7 @@ public final class SumsThatTell {
     }
 
     private static boolean holdsBit(int bits, int place) {
-        return (bits >> place & 1) != 0;
+        return ((bits >> place) & 1) != 0;
     }
 
     private static int lowestBit(int bits) {
@@ -324,7 +324,7 @@ public final class SumsThatTell {
         }
         int found = best;
         for (int w = below - 1; w >= 0 && depth + 1 + w >= Integer.bitCount(found); w--) {
-            int grown = set | 1 << w;
+            int grown = set | (1 << w);
             sorter.sortBy(w, depth);
             if (sorter.areCellsSafe(grown, depth + 1)) {
                 found = largestGranted(sorter, depth + 1, grown, w, betterOf(found, grown));
@@ -412,7 +412,7 @@ public final class SumsThatTell {
         }
 
         private int onlyPeople(int set) {
-            return set & (1 << people) - 1;
+            return set & ((1 << people) - 1);
         }
 
         private int hiddenTable() {
@@ -427,7 +427,7 @@ public final class SumsThatTell {
 
         /** Which values of a number the marks have, as bits, its least possible value first. */
         private int valuesIn(int number, long marks) {
-            return (int) (marks >>> firstBit[number]) & (1 << valueCount(number)) - 1;
+            return (int) (marks >>> firstBit[number]) & ((1 << valueCount(number)) - 1);
         }
 
         /** Whether no number is close by fewer values than its need, in tables with these marks. */
@@ -435,7 +435,8 @@ public final class SumsThatTell {
             for (int n = 0; n < size; n++) {
                 long values = valuesIn(n, marks);
                 long lowest = values & -values;
-                if (values < lowest << need[n] - 1) {
+                // Only a value that is so far above the lowest one makes the bits this great, taken as a number.
+                if (values < lowest << (need[n] - 1)) {
                     return false;
                 }
             }
@@ -473,7 +474,7 @@ public final class SumsThatTell {
         }
 
         private static boolean holds(long[] tables, int table) {
-            return (tables[table / WORD_BITS] >>> table % WORD_BITS & 1L) != 0;
+            return ((tables[table / WORD_BITS] >>> (table % WORD_BITS)) & 1L) != 0;
         }
 
         private long[] leftOf(int asker) {
@@ -513,7 +514,7 @@ public final class SumsThatTell {
                 if (holds(tables, t)) {
                     for (int v = 1; v < valueCount; v++) {
                         int table = v * tableCount + t;
-                        tables[table / WORD_BITS] |= 1L << table % WORD_BITS;
+                        tables[table / WORD_BITS] |= 1L << (table % WORD_BITS);
                     }
                 }
             }
@@ -523,7 +524,7 @@ public final class SumsThatTell {
             long[] tables = leftOf(asker);
             for (int t = 0; t < tableCount; t++) {
                 if (answers[t] != answer) {
-                    tables[t / WORD_BITS] &= ~(1L << t % WORD_BITS);
+                    tables[t / WORD_BITS] &= ~(1L << (t % WORD_BITS));
                 }
             }
         }
@@ -627,7 +628,7 @@ public final class SumsThatTell {
                 int values = numbers.valueCount(n);
                 // Downwards, as the first tables are read for all others and so must change last.
                 for (int v = values - 1; v >= 0; v--) {
-                    long bit = 1L << numbers.firstBit[n] + v;
+                    long bit = 1L << (numbers.firstBit[n] + v);
                     for (int t = 0; t < done; t++) {
                         marks[v * done + t] = marks[t] | bit;
                     }
@@ -755,12 +756,12 @@ public final class SumsThatTell {
         private void addAnswers(int wish, int[] answers) {
             for (int i = 0; i < size; i++) {
                 int t = orders[0][i];
-                rows[t] |= (long) answers[t] << wish * ANSWER_BITS;
+                rows[t] |= (long) answers[t] << (wish * ANSWER_BITS);
             }
         }
 
         private int answerTo(int wish, int table) {
-            return (int) (rows[table] >>> wish * ANSWER_BITS) & ANSWERS - 1;
+            return (int) (rows[table] >>> (wish * ANSWER_BITS)) & (ANSWERS - 1);
         }
 
         private void sortBy(int wish, int depth) {
@@ -809,7 +810,7 @@ public final class SumsThatTell {
             long bits = 0L;
             for (int w = 0; w < MAX_WISHES; w++) {
                 if (holdsBit(wishes, w)) {
-                    bits |= (long) (ANSWERS - 1) << w * ANSWER_BITS;
+                    bits |= (long) (ANSWERS - 1) << (w * ANSWER_BITS);
                 }
             }
             return bits;

@@ -572,9 +572,10 @@ public final class PromisesTest {
         x.ask(0, SUM, 3, 1);
         x.ask(0, SUM, 3, 4);
         x.ask(0, SUM, 3, 0);
+        x.ask(2, SUM, 0, 1);
         x.wish(SUM, 3, 1);
         x.join(0, 1);
-        int[] want = {2, 3, 64, 2, 1, 1, 3};
+        int[] want = {2, 3, 64, 3, 1, 1, 3};
         for (int what = 0; what < want.length; what++) {
             due("16: count(" + what + ")", x.count(what), want[what]);
         }
