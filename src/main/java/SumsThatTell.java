@@ -34,12 +34,18 @@ public final class SumsThatTell {
     private static final int ANSWER_BITS = 6;
     private static final int ANSWERS = 1 << ANSWER_BITS;
 
+    // All rows are made here, for as many tables as there can be: again() may bring fewer tables back, so rows that
+    // grow with the tables would be made anew time after time. No call makes anything.
     private final State now = new State();
     private final State[] images = new State[IMAGES];
-    private Sheet sheet = new Sheet(1);
-    private Sorter sorter = new Sorter(1);
+    private final boolean[] isTaken = new boolean[IMAGES];
+    private final Sheet sheet = new Sheet();
+    private final Sorter sorter = new Sorter();
 
     public SumsThatTell() {
+        for (int k = 0; k < IMAGES; k++) {
+            images[k] = new State();
+        }
     }
 
     public int person(int value, int least, int greatest, int need) {
@@ -188,14 +194,7 @@ public final class SumsThatTell {
             return true;
         }
         answerWishes(asker);
-        int depth = 0;
-        for (int w = 0; w < now.wishes.size; w++) {
-            if (holdsBit(wishes, w)) {
-                sorter.sortBy(w, depth);
-                depth++;
-            }
-        }
-        return sorter.areCellsSafe(wishes, depth);
+        return sorter.isGranted(wishes);
     }
 
     public int count(int what) {
@@ -223,15 +222,13 @@ public final class SumsThatTell {
         if (k < 0 || k >= IMAGES) {
             return false;
         }
-        if (images[k] == null) {
-            images[k] = new State();
-        }
         images[k].copyFrom(now);
+        isTaken[k] = true;
         return true;
     }
 
     public boolean again(int k) {
-        if (k < 0 || k >= IMAGES || images[k] == null) {
+        if (k < 0 || k >= IMAGES || !isTaken[k]) {
             return false;
         }
         now.copyFrom(images[k]);
@@ -277,7 +274,6 @@ public final class SumsThatTell {
     }
 
     private int judge(int asker, int kind, int people, int extra) {
-        readySheet();
         sheet.markTables(now.numbers);
         sheet.answerTables(now.numbers, kind, people, extra);
         sheet.gatherCells(now.knowledge.leftOf(asker), now.numbers.tableCount);
@@ -288,29 +284,17 @@ public final class SumsThatTell {
     }
 
     private long seenBy(int asker) {
-        readySheet();
         sheet.markTables(now.numbers);
         return sheet.seenIn(now.knowledge.leftOf(asker), now.numbers.tableCount);
     }
 
     private void answerWishes(int asker) {
-        readySheet();
-        if (sorter.capacity < now.numbers.tableCount) {
-            sorter = new Sorter(now.numbers.tableCount);
-        }
         Wishes wishes = now.wishes;
         sheet.markTables(now.numbers);
         sorter.begin(now.numbers, sheet.marks, now.knowledge.leftOf(asker));
         for (int w = 0; w < wishes.size; w++) {
             sheet.answerTables(now.numbers, wishes.kind[w], wishes.set[w], wishes.extra[w]);
             sorter.addAnswers(w, sheet.answers);
-        }
-    }
-
-    // The tables at least double whenever a sheet gets too small, so all sheets of an object stay few and small.
-    private void readySheet() {
-        if (sheet.capacity < now.numbers.tableCount) {
-            sheet = new Sheet(now.numbers.tableCount);
         }
     }
 
@@ -325,8 +309,7 @@ public final class SumsThatTell {
         int found = best;
         for (int w = below - 1; w >= 0 && depth + 1 + w >= Integer.bitCount(found); w--) {
             int grown = set | (1 << w);
-            sorter.sortBy(w, depth);
-            if (sorter.areCellsSafe(grown, depth + 1)) {
+            if (sorter.isGranted(grown)) {
                 found = largestGranted(sorter, depth + 1, grown, w, betterOf(found, grown));
             }
         }
@@ -610,16 +593,9 @@ public final class SumsThatTell {
      * at most 4096 tables of at most 10 numbers with at most 21 values each have at most 21 + 21 + 9 + 7 values.
      */
     private static final class Sheet {
-        private final int capacity;
-        private final long[] marks;
-        private final int[] answers;
+        private final long[] marks = new long[MAX_TABLES];
+        private final int[] answers = new int[MAX_TABLES];
         private final long[] cells = new long[ANSWERS];
-
-        private Sheet(int capacity) {
-            this.capacity = capacity;
-            marks = new long[capacity];
-            answers = new int[capacity];
-        }
 
         private void markTables(Numbers numbers) {
             marks[0] = 1L;
@@ -723,22 +699,17 @@ public final class SumsThatTell {
 
     /**
      * Room to sort, for one call, the tables left by their answers to some wishes, so that tables with the same row of
-     * answers stand together. Order d is sorted by d wishes; one more wish sorts it, stably, into order d + 1.
+     * answers stand together. Each wish of a set sorts them stably, so any order, as that of the set before, will do
+     * to begin with.
      */
     private static final class Sorter {
-        private final int capacity;
-        private final long[] rows;
-        private final int[][] orders;
+        private final long[] rows = new long[MAX_TABLES];
+        private int[] order = new int[MAX_TABLES];
+        private int[] spare = new int[MAX_TABLES];
         private final int[] starts = new int[ANSWERS + 1];
         private Numbers numbers = null;
         private long[] marks = null;
         private int size = 0;
-
-        private Sorter(int capacity) {
-            this.capacity = capacity;
-            rows = new long[capacity];
-            orders = new int[MAX_WISHES + 1][capacity];
-        }
 
         private void begin(Numbers asked, long[] tableMarks, long[] left) {
             numbers = asked;
@@ -747,7 +718,7 @@ public final class SumsThatTell {
             for (int t = 0; t < asked.tableCount; t++) {
                 if (Knowledge.holds(left, t)) {
                     rows[t] = 0L;
-                    orders[0][size] = t;
+                    order[size] = t;
                     size++;
                 }
             }
@@ -755,7 +726,7 @@ public final class SumsThatTell {
 
         private void addAnswers(int wish, int[] answers) {
             for (int i = 0; i < size; i++) {
-                int t = orders[0][i];
+                int t = order[i];
                 rows[t] |= (long) answers[t] << (wish * ANSWER_BITS);
             }
         }
@@ -764,33 +735,39 @@ public final class SumsThatTell {
             return (int) (rows[table] >>> (wish * ANSWER_BITS)) & (ANSWERS - 1);
         }
 
-        private void sortBy(int wish, int depth) {
-            if (depth < 0 || depth >= MAX_WISHES) {
-                return;
+        /** Whether all cells of a set of wishes are safe to tell. */
+        private boolean isGranted(int wishes) {
+            for (int w = 0; w < MAX_WISHES; w++) {
+                if (holdsBit(wishes, w)) {
+                    sortBy(w);
+                }
             }
-            int[] from = orders[depth];
-            int[] to = orders[depth + 1];
+            return areCellsSafe(answerBitsOf(wishes));
+        }
+
+        private void sortBy(int wish) {
             Arrays.fill(starts, 0);
             for (int i = 0; i < size; i++) {
-                starts[answerTo(wish, from[i]) + 1]++;
+                starts[answerTo(wish, order[i]) + 1]++;
             }
             for (int a = 1; a <= ANSWERS; a++) {
                 starts[a] += starts[a - 1];
             }
             for (int i = 0; i < size; i++) {
-                int answer = answerTo(wish, from[i]);
-                to[starts[answer]] = from[i];
+                int answer = answerTo(wish, order[i]);
+                spare[starts[answer]] = order[i];
                 starts[answer]++;
             }
+            int[] sorted = spare;
+            spare = order;
+            order = sorted;
         }
 
-        /** Whether all cells of a set of wishes, by which the order of that depth is sorted, are safe to tell. */
-        private boolean areCellsSafe(int wishes, int depth) {
-            if (depth < 0 || depth > MAX_WISHES || numbers == null || marks == null) {
+        /** Whether the tables that stand together with the same answers, in the wanted bits of their rows, are safe. */
+        private boolean areCellsSafe(long wanted) {
+            if (numbers == null || marks == null) {
                 return false;
             }
-            int[] order = orders[depth];
-            long wanted = answerBitsOf(wishes);
             long seen = 0L;
             for (int i = 0; i < size; i++) {
                 int t = order[i];

@@ -553,6 +553,20 @@ public final class PromisesTest {
         ofNumbersNow();
     }
 
+    /** Only the three greatest values make the greatest answer that there can be, 60. */
+    private static void greatestAnswer() {
+        SumsThatTell x = new SumsThatTell();
+        for (int p = 0; p < 3; p++) {
+            x.person(15, 15, 20, 2);
+        }
+        x.wish(0, 7, 20);
+        x.wish(0, 7, 15);
+        due("15: 60 tells all", x.together(0, 1), false);
+        due("15: 60 tells all", x.together(0, 2), false);
+        due("15: 60 tells all, twice", x.together(0, 3), false);
+        due("15: none then", x.most(0), 0);
+    }
+
     private static void ofNumbersNow() {
         SumsThatTell x = new SumsThatTell();
         x.person(3, 0, 3, 2);
@@ -676,6 +690,7 @@ public final class PromisesTest {
         clear();
         most();
         together();
+        greatestAnswer();
         count();
         images();
         System.out.println(checks + " answers, " + wrong + " not as due");
