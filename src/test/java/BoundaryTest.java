@@ -11,9 +11,10 @@ import java.util.regex.Matcher;
 import java.util.regex.Pattern;
 
 /**
- * The tests in src/test/boundaries.txt: for each sentence of the document that names a boundary case one of its own.
- * A test is told by the section, the sentence as the document has it, and what is shown; below stand its calls, each
- * with the answer that is due. How to write one stands at the top of that file.
+ * The tests in src/test/boundaries.txt: for each sentence of the document that names a boundary case one of its own,
+ * and at least one for every sentence of its terms and promises. A test is told by the section, the sentence as the
+ * document has it, and what is shown; below stand its calls, each with the answer that is due. How to write one stands
+ * at the top of that file.
  */
 public final class BoundaryTest {
     private static final Path TESTS = Path.of("src/test/boundaries.txt");
@@ -303,9 +304,7 @@ public final class BoundaryTest {
     private static void sentencesAreTheDocuments(List<Test> tests) throws IOException {
         String document = Files.readString(DOCUMENT);
         Set<String> names = new TreeSet<>();
-        Set<String> sections = new TreeSet<>();
         for (Test test : tests) {
-            sections.add(test.section);
             if (!partOf(document, test.section).contains(test.sentence)) {
                 fault(test.section, "the document does not say there: " + test.sentence);
             }
@@ -314,15 +313,45 @@ public final class BoundaryTest {
             }
         }
         for (int promise = 1; promise <= PROMISES; promise++) {
-            if (!sections.contains("Promise " + promise)) {
-                fault("Promise " + promise, "has no test");
-            }
+            eachSentenceHasATest(document, "Promise " + promise, tests);
         }
         for (int term = 1; term <= TERMS; term++) {
-            if (!sections.contains("Terms " + term)) {
-                fault("Terms " + term, "has no test");
+            eachSentenceHasATest(document, "Terms " + term, tests);
+        }
+    }
+
+    /** The sentences of a section, without its heading and the call that stands in front of a promise. */
+    private static List<String> sentencesOf(String part) {
+        List<String> found = new ArrayList<>();
+        for (String line : part.split("\n")) {
+            String text = line.replaceFirst("^(## .*|```.*|\\d+\\. |`[^`]*`: )", "").trim();
+            for (String sentence : text.split("(?<=\\w\\.|\\)\\.|\\.\\))\\s+")) {
+                if (!sentence.isEmpty()) {
+                    found.add(sentence);
+                }
             }
         }
+        return found;
+    }
+
+    /** Each sentence has at least one test that quotes it, whole or in part. */
+    private static void eachSentenceHasATest(String document, String section, List<Test> tests) {
+        String part = partOf(document, section);
+        List<String> sentences = sentencesOf(part);
+        if (sentences.isEmpty()) {
+            fault(section, "the document has no such section");
+        }
+        for (String sentence : sentences) {
+            if (tests.stream().noneMatch(t -> t.section.equals(section) && overlap(part, sentence, t.sentence))) {
+                fault(section, "no test quotes anything of: " + sentence);
+            }
+        }
+    }
+
+    private static boolean overlap(String part, String a, String b) {
+        int atA = part.indexOf(a);
+        int atB = part.indexOf(b);
+        return atA >= 0 && atB >= 0 && atA < atB + b.length() && atB < atA + a.length();
     }
 
     public static void main(String[] args) throws IOException {

@@ -24,6 +24,10 @@ public final class LanguageTest {
     private static final String RULED_OUT = "throw|throws|try|catch|finally|synchronized|assert|package|var|yield|"
         + "hashCode|toString|equals|Object|System\\.(?!arraycopy)\\w+|Math\\.\\w+Exact|Random|Thread|Math\\.random|"
         + "->|::|double|float|static\\s*\\{";
+    private static final String LIBRARY = "Arrays\\.(copyOf|copyOfRange|fill)|System\\.arraycopy|"
+        + "(Math|Integer|Long)\\.(compare|max|min|abs|bitCount|floorDiv|floorMod|MAX_VALUE|MIN_VALUE|signum|"
+        + "numberOfLeadingZeros|numberOfTrailingZeros|highestOneBit|lowestOneBit)";
+    private static final int LONGEST_METHOD = 60;
     private static int wrong = 0;
 
     private static void fault(String text) {
@@ -107,9 +111,37 @@ public final class LanguageTest {
         }
     }
 
+    private static void libraryCalls(String code) {
+        Matcher call = Pattern.compile("\\b[A-Z]\\w*[a-z]\\w*\\.\\w+").matcher(code);
+        while (call.find()) {
+            String owner = call.group().substring(0, call.group().indexOf('.'));
+            if (!code.contains(" class " + owner + " ") && !call.group().matches(LIBRARY)) {
+                fault("not of the library that is left: " + call.group());
+            }
+        }
+    }
+
+    /** A method begins with a row that ends in ') {' under its class, and ends with a brace as far in. */
+    private static void methodsAreShort(String source) {
+        String form = "(?m)^( {4}| {8})(?:public|private) [^;{=]*\\) \\{\\n((?s).*?)^\\1\\}$";
+        Matcher method = Pattern.compile(form).matcher(source);
+        int methods = 0;
+        while (method.find()) {
+            methods++;
+            if (method.group(2).lines().count() > LONGEST_METHOD) {
+                fault("a long method: " + method.group().lines().findFirst().orElse(""));
+            }
+        }
+        if (methods < FACE.size()) {
+            fault("methods were not found in the source: only " + methods);
+        }
+    }
+
     private static void words() throws IOException {
         String source = Files.readString(SOURCE);
         String code = source.replaceAll("(?s)/\\*.*?\\*/", "").replaceAll("//.*", "");
+        libraryCalls(code.replaceAll("import [^;]*;", ""));
+        methodsAreShort(source);
         Matcher ruledOut = Pattern.compile("(?<!\\w)(" + RULED_OUT + ")(?!\\w)").matcher(code);
         while (ruledOut.find()) {
             fault("ruled out: " + ruledOut.group());
